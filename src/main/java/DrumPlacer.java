@@ -1105,9 +1105,13 @@ public final class DrumPlacer {
                 case SUB: acc = within(acc - value[other]); break;
                 case MUL: acc = within(acc * value[other]); break;
                 case STORE: value[other] = acc; break;
-                case MOVE: operand[other] = plan.wordFurther(operand[other], plan.shift[step]); break;
+                case MOVE: moveOperand(other, plan.shift[step]); break;
                 default: break;
             }
+        }
+
+        private void moveOperand(int step, int further) {
+            operand[step] = plan.wordFurther(operand[step], further);
         }
 
         private static int within(int number) {
