@@ -131,7 +131,9 @@ public final class PromiseTests {
         due("its items", x.count(5) * 100 + x.count(6), 205);
         due("its time", x.time(), 87);
         due("blanks alone", Texts.tell(x, " \n "), 0);
-        due("there is none then", x.count(1), 0);
+        for (int what = 0; what <= 10; what++) {
+            due("there is none then, count " + what, x.count(what), 0);
+        }
         due("no items", x.item(0, 0), -2);
         due("no lines", x.count(9), 0);
         due("no run", x.steps(), -2);
@@ -216,6 +218,10 @@ public final class PromiseTests {
         dueBehindHead("word sixsix 7;", 0, 0);
         dueBehindHead("word sevenss 7;", 2, 5);
         dueBehindHead("word tracks 7;word wait 1;", 0, 0);
+        dueBehindHead("word mord 7;word ad 1;word less 1;", 2, 27);
+        dueBehindHead("word words 7;word hal 1;word malt 1;", 0, 0);
+        dueBehindHead("cord x 7;", 1, 0);
+        dueBehindHead("word x 7 bt 1;", 1, 9);
         for (String word : Oracle.RESERVED) {
             dueBehindHead("word " + word + " 7;", 2, 5);
             dueBehindHead("step " + word + " halt;", 2, 5);
@@ -241,6 +247,8 @@ public final class PromiseTests {
         dueBehindHead("step a halt a;", 1, 12);
         dueBehindHead("step a halts;", 1, 7);
         dueBehindHead("step a 1;", 1, 7);
+        dueBehindHead("word x 1;step a toad x a;", 1, 16);
+        dueBehindHead("word x 1;step a loaf x a;", 1, 16);
         dueBehindHead("step a load;", 1, 11);
         dueBehindHead("step a load x;", 1, 13);
         dueBehindHead("step a load x 1 a;", 1, 14);
@@ -525,6 +533,7 @@ public final class PromiseTests {
         due("loop", of(LOOP).worst(), 1);
         due("small", of(SMALL).worst(), 0);
         due("none was", of(HEAD + "step a halt at 0;").worst(), -1);
+        due("one time alone", of(HEAD + "step a halt at 1;").worst(), 0);
         // a at 2, b at 5 from 3 on: two for each of them.
         due("the first of several", of("drum tracks 1 sectors 6 wait 0 quick 0 mul 0;"
                 + "step b halt at 5;step a less b b at 2;").worst(), 0);
@@ -657,6 +666,9 @@ public final class PromiseTests {
         DrumPlacer z = of(HEAD + "step a less b b at 0;step b halt;");
         z.put(1, 3);
         due("the one that saves most", z.best(), 101);
+        DrumPlacer v = of(HEAD + "step a halt;");
+        v.put(0, 2);
+        due("the first of items and addresses", v.best(), 0);
         due("nothing happened", z.item(1, 1), 3);
         due("small", of(SMALL).best(), -1);
         due("no step", of(NO_STEP).best(), -2);
@@ -683,6 +695,9 @@ public final class PromiseTests {
         due("never read", of("drum tracks 2 sectors 4 wait 0 quick 0 mul 0;"
                 + "step a halt at 0;word x 1;").idle(), 6);
         due("all fixed", of(HEAD + "step a halt at 0;").idle(), 0);
+        DrumPlacer y = of("drum tracks 2 sectors 4 wait 0 quick 0 mul 0;step a halt;");
+        y.put(0, 4);
+        due("to the first address", y.idle(), 1);
         due("no step", of(NO_STEP).idle(), -2);
         due("no drum", new DrumPlacer().idle(), -2);
     }
