@@ -826,6 +826,7 @@ public final class DrumPlacer {
                 } else if (tokens.is("word")) {
                     readWord(plan);
                 } else {
+                    // Whatever else stands here is a fault there, as the word step is missing.
                     readStep(plan);
                 }
                 takeSemicolon();
