@@ -1136,9 +1136,10 @@ public final class DrumPlacer {
             for (int length = 1; 3 * length <= done; length++) {
                 weighPasses(length);
             }
+            int unmarked = 0;
             for (int k = 0; k < done; k++) {
-                if (stepsSaved[k] > 0) {
-                    k += markPassesFrom(k, passSteps[k]) - 1;
+                if (k >= unmarked && stepsSaved[k] > 0) {
+                    unmarked = k + markPassesFrom(k, passSteps[k]);
                 }
             }
         }
@@ -1229,7 +1230,7 @@ public final class DrumPlacer {
                 k++;
                 int passes = whole ? 0 : trace.passesToCome[k];
                 int length = trace.passReadings[k];
-                if (passes > 0 && length <= k) {
+                if (passes > 0 && length > 0 && length <= k) {
                     int begun = when[k - length] - waited[k - length];
                     end += passes * (from - begun);
                     from += passes * (from - begun);

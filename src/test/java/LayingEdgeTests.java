@@ -17,6 +17,25 @@ public final class LayingEdgeTests {
     private static final String ONE_FIXED = "drum tracks 2 sectors 3 wait 0 quick 0 mul 0;"
             + "word p 1 at 0;word q 1;step a halt;";
 
+    private static final String[] DRUMS = {
+        "drum tracks 1 sectors 6 wait 0 quick 0 mul 2;",
+        "drum tracks 1 sectors 6 wait 1 quick 1 mul 2;",
+        "drum tracks 3 sectors 2 wait 1 quick 0 mul 3;",
+        "drum tracks 2 sectors 3 wait 1 quick 1 mul 9;",
+        "drum tracks 2 sectors 4 wait 3 quick 2 mul 3;",
+        "drum tracks 1 sectors 12 wait 9 quick 4 mul 9;",
+        "drum tracks 3 sectors 3 wait 2 quick 0 mul 1;"};
+    /** ITEMS that end at once, that go round many times, and that go round with another WORD. */
+    private static final String[] RUNS = {
+        "word x 3 #;step a load x b #;step b halt #;",
+        "word x 3 #;step a mul x b #;step b halt #;",
+        "word x 3 #;step a mul x b #;step b less a a #;",
+        "word x -30 #;word n 1 at 0;step s load x a at 1;step a add n b #;step b less a c #;"
+            + "step c halt at 2;",
+        "word x 3 #;word y 4 at 0;step a add x b #;step b move a 1 a #;",
+        "word x -9 #;step a mul x a at 5;step b less a a #;word y 1 #;",
+        "step a less b c at 2;word x -2 #;step b mul x a #;step c add x a #;"};
+
     private static final Sheet sheet = new Sheet();
 
     private static DrumPlacer of(String text) {
@@ -145,27 +164,40 @@ public final class LayingEdgeTests {
                 + "step b halt;"), 1), addresses(5, 0, 6));
     }
 
-    /** Tries every laying of x, a and b on a drum of so many ADDRESSES, the first item slowest. */
-    private static void tryAll(String text, int room) {
-        DrumPlacer x = of(text);
+    /** Each # is a place where an ADDRESS may be told, or none. */
+    private static String placed(String text, int... addresses) {
+        String all = text;
+        for (int address : addresses) {
+            all = all.replaceFirst("#", "at " + address);
+        }
+        return all.replace("#", "");
+    }
+
+    private static boolean told(String text, int address) {
+        return text.contains("at " + address + ";");
+    }
+
+    /** Tries every laying of the three ITEMS marked by # one by one, the first one slowest. */
+    private static void tryAll(String text) {
+        DrumPlacer x = of(placed(text));
+        int room = x.count(0) * x.count(1);
         int least = MAX;
         int most = 0;
         long first = 0;
         long ways = 0;
-        for (int p = 0; p < room; p++) {
-            for (int q = 0; q < room; q++) {
-                for (int r = 0; r < room; r++) {
-                    if (p == q || q == r || p == r) {
-                        continue;
-                    }
-                    int time = of(text.replace("x 3;", "x 3 at " + p + ";").replace("b;s", "b at "
-                            + q + ";s").replace("halt;", "halt at " + r + ";")).time();
-                    most = Math.max(most, time);
-                    ways = time < least ? 1 : time == least ? ways + 1 : ways;
-                    first = time < least ? addresses(p, q, r) : first;
-                    least = Math.min(least, time);
-                }
+        for (int k = 0; k < room * room * room; k++) {
+            int p = k / room / room;
+            int q = k / room % room;
+            int r = k % room;
+            if (p == q || q == r || p == r || told(text, p) || told(text, q) || told(text, r)) {
+                continue;
             }
+            DrumPlacer y = of(placed(text, p, q, r));
+            int time = y.time();
+            most = Math.max(most, time);
+            ways = time < least ? 1 : time == least ? ways + 1 : ways;
+            first = time < least ? laid(y) : first;
+            least = Math.min(least, time);
         }
         sheet.under("III");
         sheet.says("LAW 2: of all LAYINGS with the least TIME the first (by the ADDRESS of the first"
@@ -181,15 +213,10 @@ public final class LayingEdgeTests {
     }
 
     private static void bestOfAll() {
-        for (String op : new String[] {"load", "mul", "store"}) {
-            String rest = "word x 3;step a " + op + " x b;step b halt;";
-            tryAll("drum tracks 1 sectors 4 wait 0 quick 0 mul 2;" + rest, 4);
-            tryAll("drum tracks 1 sectors 4 wait 0 quick 1 mul 2;" + rest, 4);
-            tryAll("drum tracks 2 sectors 2 wait 1 quick 0 mul 2;" + rest, 4);
-            tryAll("drum tracks 2 sectors 2 wait 1 quick 1 mul 9;" + rest, 4);
-            tryAll("drum tracks 2 sectors 4 wait 3 quick 2 mul 3;" + rest, 8);
-            tryAll("drum tracks 1 sectors 12 wait 9 quick 4 mul 9;" + rest, 12);
-            tryAll("drum tracks 3 sectors 3 wait 2 quick 0 mul 1;" + rest, 9);
+        for (String items : RUNS) {
+            for (String drum : DRUMS) {
+                tryAll(drum + items);
+            }
         }
         sheet.under("III");
         sheet.says("LAW 2: of all LAYINGS with the least TIME the first (by the ADDRESS of the first"
@@ -346,6 +373,8 @@ public final class LayingEdgeTests {
         sheet.due("none saves any", of(HEAD + "step a halt;word x 1;").pair(), -1);
         sheet.due("one ITEM", of(HEAD + "step a halt;").pair(), -1);
         sheet.due("one not FIXED", of(HEAD + "step a halt;word x 1 at 3;").pair(), -1);
+        sheet.due("the other one FIXED", of(HEAD + "step a halt;word x 1 at 0;").pair(), -1);
+        sheet.due("the lesser one FIXED", of(HEAD + "word x 1 at 0;step a halt;").pair(), -1);
         sheet.due("all FIXED", of(HEAD + "step a halt at 3;word x 1 at 0;").pair(), -1);
         sheet.due("two never read", of(HEAD + "step a halt at 3;word x 1;word y 1;").pair(), -1);
         sheet.due("no STEP", of(HEAD + "word x 1;word y 1;").pair(), -2);
@@ -379,6 +408,105 @@ public final class LayingEdgeTests {
         sheet.says("-2 as time()");
         sheet.due("no STEP", of(NO_STEP).idle(), -2);
         sheet.due("no DRUM", new DrumPlacer().idle(), -2);
+    }
+
+    /** What would be is what is, when it is done. */
+    private static void asIfDone() {
+        for (String items : RUNS) {
+            for (String drum : DRUMS) {
+                DrumPlacer x = of(placed(drum + items));
+                int many = x.count(5) + x.count(6);
+                sheet.under("Promise 23");
+                sheet.says("TIME, were an ITEM, not FIXED, at an ADDRESS where none is (or itself)");
+                for (int k = 0; k < many * x.count(0) * x.count(1); k++) {
+                    int moved = x.moved(k % many, k / many);
+                    sheet.due("put " + k % many + " " + k / many, x.put(k % many, k / many), moved);
+                    sheet.due("TIME", moved < 0 ? moved : x.time(), moved);
+                    x.anew();
+                }
+                sheet.under("Promise 24");
+                sheet.says("TIME, if two ITEMS, none of them FIXED, changed places");
+                for (int k = 0; k < many * many; k++) {
+                    int swapped = x.swapped(k % many, k / many);
+                    sheet.due("swap " + k % many + " " + k / many, x.swap(k % many, k / many),
+                            swapped);
+                    sheet.due("TIME", swapped < 0 ? swapped : x.time(), swapped);
+                    x.anew();
+                }
+            }
+        }
+    }
+
+    /** All that can be asked without an act; what is beyond them is 0. */
+    private static long ask(DrumPlacer x, int question) {
+        switch (question) {
+            case 0: return x.time();
+            case 1: return x.lost();
+            case 2: return x.lostFor(0);
+            case 3: return x.worst();
+            case 4: return x.bound();
+            case 5: return x.done(0, 3);
+            case 6: return x.done(1, 2);
+            case 7: return x.waiting(7);
+            case 8: return x.quicker(1);
+            case 9: return x.quicker(0);
+            case 10: return x.moved(0, x.count(0) * x.count(1) - 1);
+            case 11: return x.moved(1, 3);
+            case 12: return x.swapped(0, 1);
+            case 13: return x.swapped(1, 2);
+            case 14: return x.best();
+            case 15: return x.pair();
+            case 16: return x.idle();
+            case 17: return x.lawful(0);
+            case 18: return x.lawful(1);
+            case 19: return x.lawful(2);
+            case 20: return x.address(1, 1);
+            case 21: return x.address(2, 0);
+            case 22: return x.ways();
+            case 23: return x.dearest();
+            case 24: return x.rounds();
+            case 25: return x.met(0);
+            case 26: return x.acc();
+            case 27: return x.value(0);
+            case 28: return x.steps();
+            case 29: return x.why();
+            case 30: return laid(x);
+            case 31: return x.count(7);
+            default: return x.fault(0);
+        }
+    }
+
+    private static void nothingBesides() {
+        sheet.under("Not promised");
+        sheet.says("Nothing is promised beyond the answers and state changes described above");
+        for (String items : RUNS) {
+            String text = placed(DRUMS[4] + items);
+            for (int before = 0; before <= 32; before++) {
+                for (int question = 0; question <= 32; question++) {
+                    DrumPlacer x = of(text);
+                    ask(x, before);
+                    sheet.due("question " + question + " behind " + before + " of " + text,
+                            ask(x, question), ask(of(text), question));
+                }
+            }
+        }
+        sheet.under("Promise 4");
+        sheet.says("(in place of others)");
+        for (int one = 0; one < RUNS.length * DRUMS.length; one++) {
+            String before = placed(DRUMS[one % DRUMS.length] + RUNS[one / DRUMS.length]);
+            for (int other = 0; other < RUNS.length; other++) {
+                String text = placed(DRUMS[(one + other) % DRUMS.length] + RUNS[other]);
+                DrumPlacer x = of(before);
+                x.ways();
+                x.swap(0, 1);
+                Texts.tell(x, text);
+                DrumPlacer fresh = of(text);
+                for (int question = 0; question <= 32; question++) {
+                    sheet.due("question " + question + " of " + text + " behind " + before,
+                            ask(x, question), ask(fresh, question));
+                }
+            }
+        }
     }
 
     // ---- Promises 28 to 31
@@ -704,6 +832,8 @@ public final class LayingEdgeTests {
         savingMost();
         savingPair();
         idleMoves();
+        asIfDone();
+        nothingBesides();
         byLaws();
         noLaw();
         ofAllWays();

@@ -469,7 +469,7 @@ public final class RunEdgeTests {
         x.put(0, 3);
         sheet.due("an empty TAPE", x.drum(), 0);
         dueNoDrum(x);
-        Texts.tell(x, SMALL);
+        Texts.tell(x, "drum tracks 4 sectors 12 wait 9 quick 6 mul 9;" + mostItems());
         sheet.due("blanks alone", Texts.tell(x, " \n"), 0);
         dueNoDrum(x);
         faultStays();
