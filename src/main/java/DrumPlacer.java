@@ -535,7 +535,6 @@ public final class DrumPlacer {
         /** A word's letters as a number of its own; NONE for a word that is too long for a NAME. */
         int name = NONE;
         private int behind = 0;
-        private boolean stopped = false;
 
         Tokens(Tape tape) {
             this.tape = tape;
@@ -543,19 +542,10 @@ public final class DrumPlacer {
 
         void begin() {
             behind = 0;
-            stopped = false;
             advance();
         }
 
-        /** Keeps the token that stands now for good. */
-        void stop() {
-            stopped = true;
-        }
-
         void advance() {
-            if (stopped) {
-                return;
-            }
             skipBlanks();
             place = behind;
             int first = tape.byteAt(place);
@@ -793,7 +783,7 @@ public final class DrumPlacer {
         }
     }
 
-    /** Reads a text into a plan; behind the first fault nothing more is taken. */
+    /** Reads a text into a plan; of the faults of a LINE the first alone is kept. */
     private static final class Reader {
         private static final int STRANGE_TOKEN = 1;
         private static final int OUT_OF_BOUNDS = 2;
@@ -921,7 +911,6 @@ public final class DrumPlacer {
             if (fault == 0) {
                 fault = kind;
                 faultPlace = place;
-                tokens.stop();
             }
         }
 
@@ -947,19 +936,16 @@ public final class DrumPlacer {
         }
 
         private void takeItemName(int item) {
+            boolean reserved = tokens.isLineWord() || tokens.operation() != NONE;
+            boolean told = itemNamed(tokens.name, item) != NONE;
             if (tokens.kind != Tokens.WORD) {
                 fail(STRANGE_TOKEN);
-            } else if (!mayBeOwnName(item)) {
+            } else if (reserved || told || tokens.name == NONE) {
                 fail(OUT_OF_BOUNDS);
             } else if (item < MOST_ITEMS) {
                 names[item] = tokens.name;
             }
             tokens.advance();
-        }
-
-        private boolean mayBeOwnName(int items) {
-            boolean reserved = tokens.isLineWord() || tokens.operation() != NONE;
-            return tokens.name != NONE && !reserved && itemNamed(tokens.name, items) == NONE;
         }
 
         private boolean takeMinus() {
@@ -1106,13 +1092,11 @@ public final class DrumPlacer {
                 case SUB: acc = within(acc - value[other]); break;
                 case MUL: acc = within(acc * value[other]); break;
                 case STORE: value[other] = acc; break;
-                case MOVE: moveOperand(other, plan.shift[step]); break;
+                case MOVE:
+                    operand[other] = plan.wordFurther(operand[other], plan.shift[step]);
+                    break;
                 default: break;
             }
-        }
-
-        private void moveOperand(int step, int further) {
-            operand[step] = plan.wordFurther(operand[step], further);
         }
 
         private static int within(int number) {
@@ -1128,7 +1112,6 @@ public final class DrumPlacer {
         private void markPasses() {
             for (int k = 0; k <= MOST_READINGS; k++) {
                 passesToCome[k] = 0;
-                passReadings[k] = 0;
             }
             for (int k = 0; k < MOST_DONE; k++) {
                 stepsSaved[k] = 0;

@@ -5,10 +5,13 @@ import java.lang.reflect.Method;
 import java.lang.reflect.Modifier;
 import java.nio.file.Files;
 import java.nio.file.Path;
+import java.util.ArrayList;
 import java.util.Arrays;
 import java.util.List;
+import java.util.Map;
 import java.util.Random;
 import java.util.Set;
+import java.util.TreeMap;
 import java.util.TreeSet;
 import java.util.regex.Matcher;
 import java.util.regex.Pattern;
@@ -127,6 +130,58 @@ public final class FormTests {
         }
     }
 
+    /** Each method's name with the names of those that its body calls. */
+    private static Map<String, Set<String>> calls(String source) {
+        Map<String, String> bodies = new TreeMap<>();
+        Matcher m = Pattern.compile("(?m)^( {4}| {8})(?! )(?:[\\w\\[\\]]+ )+(\\w+)\\([^()]*\\) \\{\n"
+                + "((?:(?!\\1\\}).*\n)*)").matcher(bare(source));
+        while (m.find()) {
+            bodies.merge(m.group(2), m.group(3), String::concat);
+        }
+        Map<String, Set<String>> calls = new TreeMap<>();
+        bodies.forEach((name, body) -> {
+            Set<String> called = new TreeSet<>();
+            Matcher c = Pattern.compile("(\\w+)\\(").matcher(body);
+            while (c.find()) {
+                if (bodies.containsKey(c.group(1)) || c.group(1).matches("length|charAt|arraycopy"
+                        + "|floorMod|min|max")) {
+                    called.add(c.group(1));
+                }
+            }
+            calls.put(name, called);
+        });
+        return calls;
+    }
+
+    /** How many calls stand open at most; a method that calls itself is counted once. */
+    private static int depth(String name, Map<String, Set<String>> calls, List<String> open) {
+        int most = 0;
+        for (String called : calls.getOrDefault(name, Set.of())) {
+            boolean again = called.equals(name);
+            hold(called + " is called round about, open are " + open, again
+                    || !open.contains(called));
+            if (!open.contains(called) && !again) {
+                List<String> deeper = new ArrayList<>(open);
+                deeper.add(called);
+                most = Math.max(most, depth(called, calls, deeper));
+            }
+        }
+        return most + 1;
+    }
+
+    private static void depths(String source) {
+        Map<String, Set<String>> calls = calls(source);
+        hold("methods were found: " + calls.size(), calls.size() > 100);
+        for (String name : calls.keySet()) {
+            int depth = depth(name, calls, List.of(name));
+            hold(name + " goes " + depth + " deep", depth <= 8);
+        }
+        for (Map.Entry<String, Set<String>> each : calls.entrySet()) {
+            hold(each.getKey() + " calls itself", each.getKey().equals("layLoose")
+                    == each.getValue().contains(each.getKey()));
+        }
+    }
+
     private static int wild(Random random) {
         int[] edges = {0, 1, 2, 3, 4, 5, 6, 10, 11, 19, 20, 21, 47, 48, 99, 100, 101, 700, -1, -2,
             Integer.MIN_VALUE, Integer.MAX_VALUE};
@@ -201,6 +256,7 @@ public final class FormTests {
         face();
         words(source);
         methods(source);
+        depths(source);
         wildCalls();
         room();
         System.out.println(wrong == 0 ? "the form is as due" : wrong + " things do not hold");
