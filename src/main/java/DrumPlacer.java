@@ -1129,6 +1129,9 @@ public final class DrumPlacer {
 
         /** For passes of so many STEPS, wherever they begin: how many STEPS need no count. */
         private void weighPasses(int length) {
+            if (length < 1) {
+                return;
+            }
             int alike = 0;
             for (int k = done - length - 1; k >= 0; k--) {
                 boolean same = stepDone[k] == stepDone[k + length]
